@@ -2,7 +2,7 @@ import java.util.Arrays;
 
 /**
  * Sisters keep a light by eyes of which each may shut one: told in a text or by calls, asked
- * quarter by quarter. The promises stand in DOC.md; no call throws, for any arguments.
+ * quarter by quarter. The promises stand in DOC.md; each call answers, for any arguments.
  */
 public final class ThreeAwake {
     public static final int BAD = -1, STATE = -2, FULL = -3, NONE = -4;
