@@ -200,11 +200,42 @@ public final class ModelTest {
         }
     }
 
+    /** Three sisters and five or six quarters: what the search marks as it goes matters here. */
+    private static void longNight(int night) {
+        StringBuilder t = new StringBuilder("quarters ").append(5 + below(2)).append(';');
+        boolean alike = once(2);
+        for (int s = 0; s < 3; s++) {
+            int kind = once(6) ? 1 : alike ? 0 : below(4);
+            t.append("sister ").append(Model.KINDS[kind]);
+            t.append(' ').append(once(3) ? below(16) : 15).append(' ').append(once(3) ? below(16) : 15).append(" 0 0;");
+        }
+        for (int side = 0; side < 4; side++) {
+            t.append("need ").append(side).append(' ').append(below(5)).append(';');
+        }
+        for (int q = 0; q < 5; q++) {
+            t.append(once(3) ? "storm " + q + " " + below(4) + ";" : "");
+        }
+        ThreeAwake x = new ThreeAwake();
+        Model m = new Model();
+        feedText(night, x, m, t.toString());
+        Model.Best best = m.theBest(m.now);
+        Check.due("best(0) of " + t, x.best(0), best == null ? Model.NONE : best.least());
+        for (int q = 0; q < m.now.quarters; q++) {
+            Check.due("best(1" + q + ") of " + t, x.best(10 + q), best == null ? Model.NONE : best.watches().get(q));
+        }
+        for (int s = 0; s < 3; s++) {
+            Check.due("without(" + s + ") of " + t, x.without(s), m.without(s));
+        }
+    }
+
     public static void main(String[] args) {
         int runs = args.length > 0 ? Integer.parseInt(args[0]) : 400;
         seed += args.length > 1 ? Long.parseLong(args[1]) : 0;
         for (int i = 0; i < runs; i++) {
             run(i);
+        }
+        for (int i = 0; i < runs / 8; i++) {
+            longNight(i);
         }
         Check.finish();
     }

@@ -24,6 +24,10 @@ public final class PlanTest {
         dueRound(PLAIN + PLAIN + PLAIN + "need 0 4;need 2 4;", 4, 11, 24);
         dueRound(PLAIN + PLAIN + PLAIN + "need 0 5;");
         dueRound("sister dreamer 1 1 9 9;need 0 1;", 1, 2);
+        ThreeAwake changing = Check.told(PLAIN);
+        Check.due("round(0) of no need", changing.round(0), 2);
+        changing.need(0, 2);
+        Check.due("round(0) of a need", changing.round(0), NONE);
         ThreeAwake nobody = new ThreeAwake();
         Check.due("round(0) of nobody", nobody.round(0), STATE);
         Check.due("round(12) of nobody", nobody.round(12), STATE);
@@ -57,6 +61,8 @@ public final class PlanTest {
         dueBest(GLASS + "need 0 1;quarters 2;", 0, 0, 0);
         dueBest(PLAIN + PLAIN + PLAIN + "quarters 6;need 0 4;need 2 4;storm 2 0;storm 2 3;", 1, 0, 0, 0, 4, 11, 24);
         dueBest(PLAIN + PLAIN + PLAIN + "quarters 6;", 3, 13, 13, 13, 26, 26, 26);
+        String watched = "need 0 1;need 1 2;need 2 1;need 3 2;storm 1 3;storm 2 0;quarters 5;";
+        dueBest(GLASS + PLAIN + "sister dreamer 15 1 0 0;" + watched, 2, 2, 21, 12, 15, 26);
         dueBest("quarters 3;", 3, 0, 0, 0);
         dueBest("need 3 1;", NONE);
         ThreeAwake x = Check.told(PLAIN + "quarters 6;");

@@ -188,6 +188,7 @@ public final class StoreTest {
         x.lay(1, 4, 6);
         x.lay(1, 5, 0);
         Check.due("no such quarter", x.read(1, 1, 4, 1), -20);
+        Check.due("no such quarter, the third", x.read(1, 1, 0, 4), -22);
         x.lay(1, 4, -1);
         Check.due("a quarter below 0", x.read(1, 1, 4, 1), -20);
         x.lay(1, 8, 99);
@@ -233,6 +234,8 @@ public final class StoreTest {
         x.storm(3, 3, true);
         x.storm(3, 0, true);
         Check.due("count(4), more", x.count(4), 3);
+        x.storm(0, 1, true);
+        Check.due("count(4), of quarter 0, too", x.count(4), 4);
         Check.due("count(5)", x.count(5), 9);
         Check.due("count(6)", x.count(6), BAD);
         for (int far : FAR) {
