@@ -20,6 +20,11 @@ final class Check {
         due(what, holds ? 1 : 0, 1);
     }
 
+    /** How many answers have been compared so far. */
+    static int compared() {
+        return compared;
+    }
+
     /** Puts a text on the tape, whatever is on it. */
     static void put(ThreeAwake x, String text) {
         byte[] bytes = text.getBytes(StandardCharsets.ISO_8859_1);

@@ -81,7 +81,62 @@ public final class HeardTest {
         dueFits(tired, 0, 3, 0, 0, 0);
     }
 
+    /** Above 0: by half an eye, too. Of no watch, of one, of all but one, of all. */
+    private static void atTheEnds() {
+        ThreeAwake half = Check.told("sister dreamer 1 1 0 0;");
+        half.hear(0, 0, true);
+        dueFits(half, 0, 3, 0, 0, 0);
+        half.hear(0, 0, false);
+        dueFits(half, 0, 0, NONE, NONE, NONE);
+        dueFits(half, 1, 3, 0, 0, 0);
+        ThreeAwake x = Check.told("sister plain 1 2 0 0;sister plain 4 8 0 0;sister plain 0 1 0 0;quarters 6;");
+        x.hear(5, 0, false);
+        // The north is not seen if eye 0 and eye 5 are shut: 19, 22, 25.
+        dueFits(x, 5, 3, 19, 33, 18);
+        x.hear(5, 3, false);
+        dueFits(x, 5, 1, 25, 41, 22);
+        x.hear(5, 2, false);
+        dueFits(x, 5, 0, NONE, NONE, NONE);
+        x.forget(0);
+        x.hear(5, 0, true);
+        dueFits(x, 5, 24, 0, 0, 0);
+        dueFits(x, 0, 27, 0, 0, 0);
+        ThreeAwake nobody = new ThreeAwake();
+        nobody.hear(3, 3, false);
+        dueFits(nobody, 3, 1, 0, 0, 0);
+        nobody.hear(3, 3, true);
+        dueFits(nobody, 3, 0, NONE, NONE, NONE);
+    }
+
+    /** Eight are heard, no ninth; each of the eight counts; behind a forgotten one there is room. */
+    private static void eight() {
+        ThreeAwake x = two();
+        for (int n = 1; n <= 7; n++) {
+            x.hear(0, 0, true);
+        }
+        Check.due("seven are so by 6", x.fits(0, 0), 6);
+        Check.due("hear, the eighth", x.hear(0, 1, false), 8);
+        dueFits(x, 0, 3, 2, 2, 1);
+        Check.due("hear, the ninth", x.hear(0, 3, false), ThreeAwake.FULL);
+        dueFits(x, 0, 3, 2, 2, 1);
+        Check.due("forget(9)", x.forget(9), BAD);
+        Check.due("forget(8)", x.forget(8), 8);
+        dueFits(x, 0, 3, 2, 2, 1);
+        Check.due("forget(7)", x.forget(7), 8);
+        Check.due("the eighth is forgotten", x.fits(0, 0), 6);
+        Check.due("forget(8) of 7", x.forget(8), BAD);
+        Check.due("hear, the eighth again", x.hear(0, 0, false), 8);
+        dueFits(x, 0, 0, NONE, NONE, NONE);
+        Check.due("forget(0) of 8", x.forget(0), 8);
+        Check.due("forget(0) of 0", x.forget(0), 0);
+        Check.due("hear, the first again", x.hear(1, 1, true), 1);
+        dueFits(x, 0, 9, 0, 0, 0);
+        dueFits(x, 1, 6, 0, 0, 2);
+    }
+
     public static void main(String[] args) {
+        atTheEnds();
+        eight();
         promise31Hear();
         promise32Forget();
         promise33Fits();

@@ -185,10 +185,15 @@ public final class ModelTest {
         ThreeAwake x = new ThreeAwake();
         Model m = new Model();
         int texts = 1 + below(3);
+        int begun = Check.compared();
         for (int i = 0; i < texts; i++) {
             String text = text(below(4), 1 + below(6), below(8));
+            // An object is used for 512 calls: a text takes 43 of them at most, a step 3.
+            if (Check.compared() - begun > 512 - 43) {
+                return;
+            }
             feedText(run, x, m, text);
-            for (int call = 0; call < 120; call++) {
+            for (int call = 0; call < 120 && Check.compared() - begun <= 512 - 3; call++) {
                 String at = "run " + run + ", text " + i + ", call " + call + ": ";
                 switch (below(6)) {
                     case 0, 1 -> change(at, x, m);

@@ -63,9 +63,45 @@ public final class SleepTest {
         }
     }
 
+    /** One eye, from never to always; two that see the same, two that see others. */
+    private static void atTheEnds() {
+        long[][] odds = {{0, 1}, {1, 10}, {1, 5}, {3, 10}, {2, 5}, {1, 2}, {3, 5}, {7, 10}, {4, 5}, {1, 1}};
+        for (int v = 0; v <= 9; v++) {
+            ThreeAwake x = Check.told("sister plain 1 0 " + v + " 9;sister plain 0 2 9 " + v + ";need 0 1;need 1 1;");
+            dueOdds(x, 0, 0, odds[v][0], odds[v][1]);
+            dueOdds(x, 1, 0, odds[v][0], odds[v][1]);
+            dueOdds(x, 2, 0, 0, 1);
+            x.need(1, 0);
+            dueMean(x, 0, odds[v][0], odds[v][1]);
+            x.need(3, 1);
+            dueOdds(x, 3, 0, 1, 1);
+            x.need(2, 1);
+            x.need(1, 6);
+            // Three sides are missed for certain, the north by its odds.
+            dueMean(x, 0, odds[v][0] + 3 * odds[v][1], odds[v][1]);
+            x.tell(0, 1);
+            dueOdds(x, 0, 0, 1, 1);
+            dueMean(x, 0, 4, 1);
+            x.tell(0, 2);
+            dueOdds(x, 0, 0, odds[v][0], odds[v][1]);
+        }
+        // Of all six eyes each is needed: none may fall shut; as it begins, not as it ends.
+        ThreeAwake six = Check.told("sister plain 1 1 1 1;sister visitor 1 1 1 1;sister dreamer 1 1 1 1;need 0 6;");
+        dueOdds(six, 0, 0, 468559, 1000000);
+        dueMean(six, 0, 468559, 1000000);
+        dueOdds(six, 0, 1, 12489, 15625);
+        six.need(0, 0);
+        dueOdds(six, 0, 3, 0, 1);
+        dueMean(six, 3, 0, 1);
+        six.need(0, 1);
+        // Two dreaming eyes that are shut count as much as one that is open.
+        dueOdds(six, 0, 0, 0, 1);
+    }
+
     public static void main(String[] args) {
         promise29Odds();
         promise30Mean();
+        atTheEnds();
         Check.finish();
     }
 }

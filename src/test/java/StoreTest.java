@@ -245,7 +245,184 @@ public final class StoreTest {
         Check.due("count(5) of three", Check.told(TWO + "sister glass 1 1 1 1;").count(5), 27);
     }
 
+    /** What an image does not hold: the tape, sheets, what was torn, the fault, the other image. */
+    private static void promise35WhatStays() {
+        ThreeAwake x = changed();
+        x.keep(0);
+        changeAll(x);
+        x.keep(1);
+        x.sheet(0, 0, 2);
+        x.lay(0, 1, 8);
+        x.sheet(1, 0, 40);
+        x.read(2, 0, 0, 1);
+        Check.refused(x, "storm", 2, 5);
+        x.feed(0);
+        x.end(7);
+        Check.due("back(0)", x.back(0), 2);
+        dueAsChanged(x);
+        Check.due("torn() stays by back", x.torn(), 1);
+        Check.due("fault() stays by back", x.fault(), 2);
+        Check.due("the tape stays by back", x.count(2), 7);
+        Check.due("the sheet stays by back", x.count(3), 2);
+        Check.due("both images stay by back", x.count(1), 2);
+        Check.due("what is on the sheet stays", x.read(0, 0, 0, 1), 1);
+        Check.due("and is told", x.watch(0), 8);
+        Check.due("the other image stays", x.back(1), 2);
+        Check.due("facing of the other image", x.sister(1, 1), 2);
+        Check.due("storm of the other image", x.needed(0, 0), 1);
+        Check.due("heard of the other image", x.count(0), 1);
+        Check.due("how many sisters of 3", three().back(0), 3);
+    }
+
+    private static ThreeAwake three() {
+        ThreeAwake x = Check.told(TWO + "sister glass 1 1 1 1;");
+        x.keep(0);
+        return x;
+    }
+
+    /** Of 0, 1, 39, 40 cells, in each lane of each sheet: the last cell, the first behind it. */
+    private static void promise36And37Sizes() {
+        int[] sizes = {0, 1, 39, 40};
+        for (int k = 0; k < 4; k++) {
+            ThreeAwake x = new ThreeAwake();
+            for (int lane = 0; lane < 3; lane++) {
+                for (int n : sizes) {
+                    Check.due("sheet", x.sheet(k, lane, n), 1);
+                    Check.due("the last of " + n, x.lay(k, n - 1, 0), n == 0 ? -12 : 1);
+                    Check.due("behind the last of " + n, x.lay(k, n, 0), -12);
+                    Check.due("the first of " + n, x.lay(k, 0, 0), n == 0 ? -12 : 1);
+                    Check.due("below the first of " + n, x.lay(k, -1, 0), -12);
+                    Check.due("count(3)", x.count(3), k == 0 ? n : NONE);
+                    Check.due("sheet of 41", x.sheet(k, lane, 41), BAD);
+                    Check.due("sheet of -1", x.sheet(k, lane, -1), -14);
+                    Check.due("the row stays", x.lay(k, n, 0), -12);
+                    Check.due("the row stays", x.lay(k, n - 1, 0), n == 0 ? -12 : 1);
+                }
+            }
+            for (int other = 0; other < 4; other++) {
+                Check.due("the other sheets are nothing", x.lay(other, 0, 0), other == k ? 1 : -11);
+            }
+        }
+        ThreeAwake x = new ThreeAwake();
+        Check.due("BAD ahead of SIZE: k", x.sheet(4, 0, -1), BAD);
+        Check.due("BAD ahead of SIZE: lane", x.sheet(0, -1, -1), BAD);
+        Check.due("BAD ahead of SIZE: lane", x.sheet(0, 3, -1), BAD);
+        Check.due("nothing is made", x.count(3), NONE);
+        Check.due("BAD ahead of NULL", x.lay(4, 0, 0), BAD);
+    }
+
+    /** What is laid comes by its lowest bits, with a sign: 8, 16, 32 of them. */
+    private static void promise37Bits() {
+        int[] bits = {8, 16, 32};
+        int[] laid = {5, 255, 256, 261, -251, 127, 128, -128, -129, 65535, 65536, 65541, -65531, 32767, 32768,
+            Integer.MIN_VALUE, Integer.MIN_VALUE + 5, Integer.MAX_VALUE, Integer.MAX_VALUE - 250, 0x10000 + 256 + 3};
+        for (int lane = 0; lane < 3; lane++) {
+            ThreeAwake x = Check.told(TWO);
+            x.sheet(3, lane, 2);
+            for (int v : laid) {
+                int shift = 32 - bits[lane];
+                int comes = v << shift >> shift;
+                x.tell(0, 8);
+                Check.due("lay of " + v, x.lay(3, 1, v), 1);
+                boolean whole = comes >= 0 && comes <= 8;
+                Check.due("read of " + v + " in lane " + lane, x.read(3, lane, 0, 1), whole ? 1 : -20);
+                Check.due("watch by " + v + " in lane " + lane, x.watch(0), whole ? comes : 8);
+            }
+        }
+    }
+
+    private static void dueRead(ThreeAwake x, int lane, int f, int n, int come, int torn) {
+        Check.due("read(0, " + lane + ", " + f + ", " + n + ")", x.read(0, lane, f, n), come);
+        Check.due("torn() of it", x.torn(), torn);
+    }
+
+    /** From each place on, of each number: which come, and what the machine finds. */
+    private static void promise38Ends() {
+        ThreeAwake x = Check.told(TWO);
+        x.sheet(0, 1, 40);
+        for (int f = 38; f <= 42; f++) {
+            dueRead(x, 1, f, 0, 0, 0);
+            dueRead(x, 1, f, 1, f == 38 ? 1 : 0, f == 38 ? 0 : 2);
+            dueRead(x, 1, f, 13, f == 38 ? 1 : 0, 2);
+            dueRead(x, 2, f, 1, 0, 3);
+        }
+        for (int f = 13; f <= 16; f++) {
+            dueRead(x, 1, f, 13, f <= 14 ? 13 : 12, f <= 14 ? 0 : 2);
+        }
+        int[] far = {-1, -2, -26, Integer.MIN_VALUE, Integer.MIN_VALUE + 1, Integer.MAX_VALUE, Integer.MAX_VALUE - 1, Integer.MAX_VALUE - 25};
+        for (int f : far) {
+            dueRead(x, 1, f, 13, 0, 2);
+            dueRead(x, 1, f, 0, 0, 0);
+            dueRead(x, 0, f, 13, 0, 3);
+            dueRead(x, 0, f, 0, 0, 0);
+            Check.due("nothing: NULL ahead of all", x.read(2, 0, f, 13), 0);
+            Check.due("torn() by NULL", x.torn(), 1);
+            Check.due("nothing, of n 0", x.read(2, 0, f, 0), 0);
+            Check.due("torn() of n 0", x.torn(), 0);
+        }
+        x.sheet(0, 0, 0);
+        dueRead(x, 0, 0, 1, 0, 2);
+        dueRead(x, 1, 0, 1, 0, 3);
+        dueRead(x, 0, 0, 0, 0, 0);
+        x.sheet(0, 0, 1);
+        dueRead(x, 0, 0, 1, 0, 2);
+        x.sheet(0, 0, 3);
+        dueRead(x, 0, 0, 1, 1, 0);
+        dueRead(x, 0, 0, 2, 1, 2);
+        dueRead(x, 0, 1, 1, 1, 0);
+        dueRead(x, 0, 2, 1, 0, 2);
+    }
+
+    /** The i-th is BAD: the first, the last; what is half is not BAD, and what is BAD is first. */
+    private static void promise38FirstMet() {
+        for (int bad = 0; bad < 13; bad++) {
+            ThreeAwake x = Check.told(TWO + "quarters 2;");
+            x.sheet(0, 2, 26);
+            for (int i = 0; i < 13; i++) {
+                x.lay(0, 2 * i + 1, 4);
+            }
+            x.read(1, 0, 0, 1);
+            x.lay(0, 2 * bad + bad % 2, bad % 2 == 0 ? 2 : 9);
+            Check.due("read: BAD is " + bad, x.read(0, 2, 0, 13), -20 - bad);
+            Check.due("then none came", x.watch(0), 0);
+            Check.due("torn() stays", x.torn(), 1);
+            Check.due("read of those ahead of it", x.read(0, 2, 0, bad), bad);
+            Check.due("torn() of them", x.torn(), 0);
+            Check.due("they came", x.watch(0), bad == 0 ? 0 : 4);
+            Check.due("read of those behind it", x.read(0, 2, 2 * bad + 2, 12 - bad), 12 - bad);
+            Check.due("read, one more than there are", x.read(0, 2, 2 * bad + 2, 13 - bad), 12 - bad);
+            Check.due("torn() by INDEX", x.torn(), 2);
+            x.sheet(0, 2, 1);
+            x.lay(0, 0, 99);
+            Check.due("half of one is not BAD", x.read(0, 2, 0, 1), 0);
+            Check.due("torn() by INDEX", x.torn(), 2);
+        }
+        ThreeAwake x = Check.told(TWO);
+        x.sheet(0, 0, 4);
+        x.lay(0, 1, 3);
+        x.lay(0, 3, 7);
+        dueRead(x, 0, 0, 2, 2, 0);
+        Check.due("the later one of a quarter stays", x.watch(0), 7);
+        x.lay(0, 0, -1);
+        Check.due("a quarter of -1", x.read(0, 0, 0, 2), -20);
+        x.lay(0, 0, 4);
+        Check.due("a quarter of 4", x.read(0, 0, 0, 2), -20);
+        x.lay(0, 0, 3);
+        x.lay(0, 1, -1);
+        Check.due("a watch of -1", x.read(0, 0, 0, 2), -20);
+        x.lay(0, 1, 9);
+        Check.due("a watch of 9", x.read(0, 0, 0, 2), -20);
+        x.lay(0, 1, 8);
+        dueRead(x, 0, 0, 2, 2, 0);
+        Check.due("the last watch of the last quarter", x.watch(3), 8);
+    }
+
     public static void main(String[] args) {
+        promise35WhatStays();
+        promise36And37Sizes();
+        promise37Bits();
+        promise38Ends();
+        promise38FirstMet();
         promise34And35KeepAndBack();
         promise36Sheet();
         promise37Lay();

@@ -106,9 +106,9 @@ public final class TapeTest {
 
     /** What stood behind the end of the tape before is no part of it. */
     private static void promise5FaultAtTheEnd() {
-        ThreeAwake x = new ThreeAwake();
         String[] rows = {"need", "need 0 1", "need 0"};
         for (String row : rows) {
+            ThreeAwake x = new ThreeAwake();
             Check.put(x, row + "need");
             x.end(row.length());
             Check.refused(x, "", 2, row.length());
@@ -116,6 +116,7 @@ public final class TapeTest {
             x.end(row.length());
             Check.refused(x, "", 2, row.length());
         }
+        ThreeAwake x = new ThreeAwake();
         String full = " ".repeat(316);
         Check.refused(x, full + "need", 2, 320);
         Check.refused(x, full + " 123", 1, 317);
@@ -155,9 +156,10 @@ public final class TapeTest {
             {"watch 0 1;", "7", "10"}, {PLAIN + "watch 0 3;", "7", "31"}, {PLAIN + PLAIN + "watch 3 9;", "7", "52"},
         };
         for (String[] row : rows) {
-            Check.refused(x, row[0], Integer.parseInt(row[1]), Integer.parseInt(row[2]));
+            ThreeAwake y = new ThreeAwake();
+            Check.refused(y, row[0], Integer.parseInt(row[1]), Integer.parseInt(row[2]));
+            Check.due("nobody behind [" + row[0] + "]", y.rule(0), 0);
         }
-        Check.due("nobody behind all that", x.rule(0), 0);
         Check.taken(x, PLAIN + "watch 0 2;", 2);
         Check.refused(x, "x", 2, 0);
         Check.due("fault() asked again", x.fault(), 2);
