@@ -274,6 +274,33 @@ public final class StoreTest {
         Check.due("how many sisters of 3", three().back(0), 3);
     }
 
+    /** Of nothing heard, of eight: all of them are in an image, and none is left of another. */
+    private static void promise34Heard() {
+        for (int n = 0; n <= 8; n++) {
+            ThreeAwake x = Check.told(TWO);
+            for (int i = 0; i < n; i++) {
+                x.hear(0, 0, i < n - 1);
+            }
+            int fit = x.fits(0, 0);
+            x.keep(0);
+            x.forget(0);
+            for (int i = 0; i < 8; i++) {
+                x.hear(1, 1, false);
+            }
+            x.keep(1);
+            Check.due("back(0) of " + n + " heard", x.back(0), 2);
+            Check.due("so many are heard", x.count(0), n);
+            Check.due("what was heard", x.fits(0, 0), n == 0 ? 9 : n == 1 ? 3 : 0);
+            Check.due("it is as it was", x.fits(0, 0), fit);
+            Check.due("nothing of the other quarter", x.fits(1, 0), 9);
+            Check.due("one more", x.hear(1, 1, true), n == 8 ? ThreeAwake.FULL : n + 1);
+            Check.due("back(1) of 8 heard", x.back(1), 2);
+            Check.due("eight are heard", x.count(0), 8);
+            Check.due("what was heard of quarter 1", x.fits(1, 0), 3);
+            Check.due("what was heard of quarter 0", x.fits(0, 0), 9);
+        }
+    }
+
     private static ThreeAwake three() {
         ThreeAwake x = Check.told(TWO + "sister glass 1 1 1 1;");
         x.keep(0);
@@ -418,6 +445,7 @@ public final class StoreTest {
     }
 
     public static void main(String[] args) {
+        promise34Heard();
         promise35WhatStays();
         promise36And37Sizes();
         promise37Bits();

@@ -56,6 +56,36 @@ public final class TapeTest {
         Check.due("end(3)", x.end(3), 16);
         Check.due("end(0)", x.end(0), 3);
         Check.due("count(2)", x.count(2), 0);
+        promise3FeedBehindTheEnd();
+    }
+
+    /** The first n bytes are kept, the next come behind them; what was cut is gone. */
+    private static void promise3FeedBehindTheEnd() {
+        String cut = "need 0 5;storm 0 0;";
+        for (int n = 0; n <= 9; n++) {
+            ThreeAwake x = new ThreeAwake();
+            Check.put(x, cut);
+            Check.due("end(" + n + ")", x.end(n), cut.length());
+            Check.due("feed behind " + n, x.feed(0x2020202020202020L), n + 8);
+            Check.due("end of that", x.end(n), n + 8);
+            Check.put(x, cut.substring(n, 9) + "need 1 2;");
+            Check.due("text() of both", x.text(), 2);
+            Check.due("the first bytes are kept", x.needed(0, 0), 5);
+            Check.due("the next come behind them", x.needed(1, 0), 2);
+            Check.due("what was cut is gone", x.count(4), 0);
+        }
+        ThreeAwake signs = new ThreeAwake();
+        // The lowest byte of the first eight, the highest of the next: one name of both.
+        signs.feed(0x2020202020206e65L);
+        signs.feed(0x6564203020343b20L);
+        Check.due("text() of a name over two feeds", signs.text(), 1);
+        Check.due("its need", signs.needed(0, 0), 4);
+        signs.feed(0x8000000000000000L);
+        Check.due("a byte of 128", signs.text(), -10);
+        Check.due("is no token", signs.fault(), 1);
+        signs.feed(0x20202020202020ffL);
+        Check.due("a byte of 255, the last", signs.text(), -17);
+        Check.due("is no token", signs.fault(), 1);
     }
 
     private static void promise4Text() {

@@ -179,6 +179,7 @@ public final class TokensTest {
             refused(name + "x 1 1;", 2, 0);
             refused(name.replace('e', 'i').replace('a', 'e').replace('o', 'u') + " 1 1;", 2, 0);
             refused(" " + name + name + " 1 1;", 2, 1);
+            otherLetters("", name, " 1 1;");
         }
         String[] kinds = {"plain", "glass", "visitor", "dreamer"};
         for (int kind = 0; kind < kinds.length; kind++) {
@@ -189,6 +190,20 @@ public final class TokensTest {
             refused("sister " + kinds[kind].substring(0, kinds[kind].length() - 1) + " 5 6 7 8;", 2, 7);
             refused(kinds[kind] + " 5 6 7 8;", 2, 0);
             refused("sister 5 6 7 8;", 2, 7);
+            otherLetters("sister ", kinds[kind], " 5 6 7 8;");
+        }
+    }
+
+    /** Each letter of a name in turn is the one behind it, the one ahead of it, a great one. */
+    private static void otherLetters(String ahead, String name, String behind) {
+        for (int i = 0; i < name.length(); i++) {
+            int[] others = {name.charAt(i) + 1, name.charAt(i) - 1, name.charAt(i) - 32};
+            for (int other : others) {
+                String text = ahead + name.substring(0, i) + (char) other + name.substring(i + 1) + behind;
+                // What is no letter ends the name ahead of it, which is none then.
+                boolean first = i == 0 && !isLetter(other);
+                refused(text, first ? 1 : 2, ahead.length());
+            }
         }
     }
 
@@ -275,6 +290,10 @@ public final class TokensTest {
                 there(w < watches, "watch 3 " + w + ";", told, 7, sisters + 1);
             }
             told = told + PLAIN;
+        }
+        for (int q = 0; q < 6; q++) {
+            there(true, "watch " + q + " 8;", PLAIN + "quarters 6;" + PLAIN, 7, 4);
+            there(false, "watch " + q + " 9;", PLAIN + "quarters 6;" + PLAIN, 7, 4);
         }
         for (int quarters = 1; quarters <= 6; quarters++) {
             for (int q = 0; q < 6; q++) {
